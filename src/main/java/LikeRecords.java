@@ -255,8 +255,11 @@ public final class LikeRecords {
 
     public int bestBound() {
         int best = 1;
+        int smallest = sizeFor(best);
         for (int bound = 2; bound <= MOST_BOUND; bound++) {
-            if (sizeFor(bound) < sizeFor(best)) {
+            int size = sizeFor(bound);
+            if (size < smallest) {
+                smallest = size;
                 best = bound;
             }
         }

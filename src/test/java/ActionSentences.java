@@ -64,7 +64,8 @@ final class ActionSentences {
     }
 
     private void actions() {
-        book.says("Every successful call of a method that is called an action records the state before it (also if nothing changes by it);");
+        book.says("Every successful call of a method that is called an action records the state before it (also if "
+            + "nothing changes by it);");
         LikeRecords x = book.with("{a:1,b:{c:2}}");
         book.is("count(8) behind read()", x.count(8), 1);
         book.is("change(0, 0, 1) to the same", x.change(0, 0, 1), 1);
@@ -222,11 +223,14 @@ final class ActionSentences {
         book.is("field(2, 99): no shape", x.field(2, 99), -1);
         book.is("like(0)", book.with("{}").like(0), -9);
         book.is("like(1): no record", book.with("{}").like(1), -1);
-        book.isTrue("NONE changes nothing", Full.some().isLeftBy(y -> y.character(0, 99) + y.value(0, 4) + y.field(0, 99)));
+        book.isTrue("character(0, 99) changes nothing", Full.some().isLeftBy(y -> y.character(0, 99)));
+        book.isTrue("value(0, 4) changes nothing", Full.some().isLeftBy(y -> y.value(0, 4)));
+        book.isTrue("field(0, 99) changes nothing", Full.some().isLeftBy(y -> y.field(0, 99)));
     }
 
     private void constants() {
-        book.says("The constants: `INVALID_ARGUMENT = -1`: An argument is out of range, or names something that does not exist.");
+        book.says("The constants: `INVALID_ARGUMENT = -1`: An argument is out of range, or names something that does "
+            + "not exist.");
         book.is("INVALID_ARGUMENT", LikeRecords.INVALID_ARGUMENT, -1);
         LikeRecords x = new LikeRecords();
         book.is("discard(0)", x.discard(0), LikeRecords.INVALID_ARGUMENT);
@@ -378,6 +382,11 @@ final class ActionSentences {
         book.back(y, 0, "{a:{a:{b:3},b:4},b:5}");
         y.drop(0, 0);
         book.back(y, 0, "{b:5}");
+        LikeRecords deepest = book.with("{a:{a:{a:{a:1,b:2},b:3},b:4},b:5}");
+        deepest.drop(0, 0);
+        book.back(deepest, 0, "{b:5}");
+        book.is("value(0, 3)", deepest.value(0, 3), -9);
+        book.is("value(0, 7)", deepest.value(0, 7), 5);
         book.says("This is an action.");
         book.is("count(8)", y.count(8), 3);
         book.is("undo()", y.undo(), 2);
@@ -474,17 +483,20 @@ final class ActionSentences {
 
     private void undo() {
         book.says("`int undo()`: Removes the latest state from the history and restores it.");
-        Script[] before = {Full.some(), new Script().read("{a:1}", "{b:{c:2}}"), Full.shapes().then(x -> x.discard(0))};
+        Script few = new Script().read("{a:1}", "{b:{c:2}}", "{}", "{}");
+        Script[] before = {Full.some(), few, Full.shapes().then(x -> x.discard(0))};
         for (Script script : before) {
-            undone("read()", script, x -> x.clearText() + Due.read(x, "{}"));
-            undone("read()", script, x -> x.clearText() + Due.read(x, "{k:1,l:{m:2}}"));
-            undone("change(3, 5, 9)", script, x -> x.change(3, 5, 9));
-            undone("change(0, 0, 9)", script, x -> x.change(0, 0, 9));
-            undone("drop(0, 0)", script, x -> x.drop(0, 0));
-            undone("drop(0, 1)", script, x -> x.drop(0, 1));
-            undone("discard(0)", script, x -> x.discard(0));
-            undone("discard(3)", script, x -> x.discard(3));
-            undone("setBound(1)", script, x -> x.setBound(1));
+            Script there = script.then(LikeRecords::clearText).then(LikeRecords::undo).then(LikeRecords::undo);
+            book.isTrue("the history has room", there.run().count(8) < 5);
+            undone("read() of {}", there, there.copy().read("{}"));
+            undone("read() of new paths", there, there.copy().read("{k:1,l:{m:2}}"));
+            undone("change(3, 5, 9)", there, there.copy().then(x -> x.change(3, 5, 9)));
+            undone("change(0, 0, 9)", there, there.copy().then(x -> x.change(0, 0, 9)));
+            undone("drop(0, 0)", there, there.copy().then(x -> x.drop(0, 0)));
+            undone("drop(0, 1)", there, there.copy().then(x -> x.drop(0, 1)));
+            undone("discard(0)", there, there.copy().then(x -> x.discard(0)));
+            undone("discard(3)", there, there.copy().then(x -> x.discard(3)));
+            undone("setBound(1)", there, there.copy().then(x -> x.setBound(1)));
         }
         book.says("Returns the number of states that are left in the history;");
         LikeRecords x = book.with("{}", "{}", "{}", "{}", "{}", "{}", "{}");
@@ -505,12 +517,11 @@ final class ActionSentences {
         book.is("undo()", y.undo(), -2);
     }
 
-    /** Behind the call and undo(), if the call was an action, all looks answer as before. */
-    private void undone(String name, Script script, Script.Call call) {
-        Script before = script.copy().then(LikeRecords::clearText).then(LikeRecords::undo).then(LikeRecords::undo);
-        int states = before.run().count(8);
-        book.isTrue("the history has room", states < 5);
-        book.isTrue(name + " and undo() leave all as it was",
-            Script.isSame(before, before.copy().then(call).then(x -> x.count(8) > states ? x.undo() : 0)));
+    /** Behind undo(), if there was an action, all looks answer as before. */
+    private void undone(String name, Script before, Script behind) {
+        if (behind.run().count(8) > before.run().count(8)) {
+            behind.then(LikeRecords::undo);
+        }
+        book.isTrue(name + " and undo() leave all as it was", Script.isSame(before, behind));
     }
 }

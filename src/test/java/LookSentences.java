@@ -51,7 +51,8 @@ final class LookSentences {
     // ---- Paths
 
     private void paths() {
-        book.says("A path is a letter in a record, with the path of the inner record in which it stands (none in the outer one).");
+        book.says("A path is a letter in a record, with the path of the inner record in which it stands (none in the "
+            + "outer one).");
         LikeRecords x = book.with("{a:{a:{a:{a:1},b:2},b:3},b:4}");
         int[][] paths = {{'a', -9}, {'a', 0}, {'a', 1}, {'a', 2}, {'b', 1}, {'b', 0}, {'b', -9}};
         book.is("count(2)", x.count(2), 7);
@@ -65,7 +66,8 @@ final class LookSentences {
         book.is("value(0, 3)", y.value(0, 3), 2);
         book.is("value(0, 4)", y.value(0, 4), -9);
         book.is("value(1, 4)", y.value(1, 4), 3);
-        book.says("Paths are numbered from 0 in the order in which they first stood in a record that was read (a branch ahead of what is in it);");
+        book.says("Paths are numbered from 0 in the order in which they first stood in a record that was read (a "
+            + "branch ahead of what is in it);");
         LikeRecords z = book.with("{b:{z:1,c:{}},a:2}", "{d:3,a:{z:4},b:{e:5,c:6}}");
         int[][] order = {{'b', -9}, {'z', 0}, {'c', 0}, {'a', -9}, {'d', -9}, {'z', 3}, {'e', 0}};
         book.is("count(2)", z.count(2), 7);
@@ -111,7 +113,8 @@ final class LookSentences {
     }
 
     private void leavesAndBranches() {
-        book.says("A path is a leaf of a record if a number stands there in it, and a branch if an inner record stands there.");
+        book.says("A path is a leaf of a record if a number stands there in it, and a branch if an inner record stands "
+            + "there.");
         LikeRecords x = book.with("{a:1,b:{c:0}}", "{a:{},b:2}");
         book.is("value(0, 0)", x.value(0, 0), 1);
         book.is("value(0, 1)", x.value(0, 1), -9);
@@ -129,7 +132,8 @@ final class LookSentences {
     // ---- Shapes
 
     private void shapes() {
-        book.says("The shape of a record is its text without spaces and numbers (so the letters, their order, and the signs are in it).");
+        book.says("The shape of a record is its text without spaces and numbers (so the letters, their order, and the "
+            + "signs are in it).");
         LikeRecords x = book.with("{a:1,b:2}", " { a : 999 , b:0 } ", "{b:2,a:1}", "{a:1,b:{}}", "{a:{b:1}}", "{a:{},b:1}",
             "{a:1,c:2}", "{a:1}", "{}", "{a:{b:{}}}", "{a:{b:7}}", "{b:{a:7}}");
         int[] shapes = {0, 0, 1, 2, 3, 4, 5, 6, 7, 8, 3, 9};
@@ -571,6 +575,7 @@ final class LookSentences {
         for (int index = 0; index < 8; index++) {
             book.is("field(0, " + index + ")", z.field(0, index), deep[index]);
         }
+        mostFields();
         book.says("INVALID_ARGUMENT if there is no such shape or index is negative;");
         for (int shape : NOT_THERE) {
             book.is("field(" + shape + ", 0)", x.field(shape, 0), -1);
@@ -589,5 +594,15 @@ final class LookSentences {
         }
         book.is("field(1, 2)", x.field(1, 2), -9);
         book.is("field(0, 0) of a shape without fields", book.with("{}").field(0, 0), -9);
+    }
+
+    /** No text of 80 characters has more than 19 fields. */
+    private void mostFields() {
+        LikeRecords x = book.with("{a:{a:{a:{a:1}}},b:{a:{a:{a:2}}},c:{a:{a:{a:3}}},d:4,e:5,f:6,g:7,h:8,i:9,j:0}");
+        int[] fields = {100, 101, 102, 3, 104, 105, 106, 7, 108, 109, 110, 11, 12, 13, 14, 15, 16, 17, 18, -9};
+        for (int index = 0; index < fields.length; index++) {
+            book.is("field(0, " + index + ")", x.field(0, index), fields[index]);
+        }
+        book.back(x, 0, "{a:{a:{a:{a:1}}},b:{a:{a:{a:2}}},c:{a:{a:{a:3}}},d:4,e:5,f:6,g:7,h:8,i:9,j:0}");
     }
 }

@@ -68,9 +68,10 @@ final class Script {
     /** The answers to every look, on as many new objects as the calls of one object allow for. */
     private List<Integer> looks() {
         List<Integer> answers = new ArrayList<>();
+        LikeRecords first = run();
         LikeRecords object = run();
         int made = calls.size();
-        for (Call look : everyLook(object.count(1), object.count(2), object.count(3))) {
+        for (Call look : everyLook(first.count(1), first.count(2), first.count(3))) {
             if (made >= MOST_CALLS) {
                 object = run();
                 made = calls.size();

@@ -67,7 +67,8 @@ final class SizeSentences {
         book.is("discard(0)", x.discard(0), 1);
         book.is("discard(2)", x.discard(2), 0);
         book.is("count(6), none is left", x.count(6), 0);
-        book.says("for each common shape 1 and the number of its leaves and branches, and for each of its records the number of its leaves;");
+        book.says("for each common shape 1 and the number of its leaves and branches, and for each of its records the "
+            + "number of its leaves;");
         book.is("count(6), two with a leaf", times(2, "{a:1}").count(6), 2 + 1 + 1 + 2);
         book.is("count(6), two with a branch", times(2, "{a:{}}").count(6), 2 + 1 + 1);
         book.is("count(6), three with 2 leaves and 3 branches", times(3, "{a:1,b:{c:{d:2}},e:{}}").count(6), 3 + 1 + 5 + 3 * 2);
@@ -89,7 +90,8 @@ final class SizeSentences {
     }
 
     private void costs() {
-        book.says("The cost of reading a path alone is the sum of these: for each common shape in which it is a leaf the number of its records;");
+        book.says("The cost of reading a path alone is the sum of these: for each common shape in which it is a leaf "
+            + "the number of its records;");
         LikeRecords x = book.with("{a:1,b:{c:2}}", "{a:3,b:{c:4}}", "{b:5,a:{}}", "{b:6,a:{}}", "{b:7,a:{}}");
         int[] costs = {2, 3, 2};
         for (int path = 0; path < 3; path++) {
@@ -129,7 +131,7 @@ final class SizeSentences {
             book.is("sizeWith(" + bound + ")", x.sizeWith(bound), 11 + common + (bound == 1 ? 1 + 1 + 1 : 2));
         }
         book.is("count(7), nothing changes", x.count(7), 2);
-        book.isTrue("nothing changes", Full.some().isLeftBy(y -> y.sizeWith(1) + y.sizeWith(10)));
+        book.isTrue("nothing changes", Full.some().isLeftBy(y -> y.sizeWith(1)));
         book.says("- `bound`: 1 to 10");
         LikeRecords y = times(9, "{a:1}");
         book.is("sizeWith(1)", y.sizeWith(1), 9 + 1 + 1 + 9);
@@ -193,6 +195,9 @@ final class SizeSentences {
         book.is("like(0), the path and not the letter", y.like(0), 4);
         book.is("like(1), branches do not count", y.like(1), 0);
         book.is("like(3), a leaf is no branch", y.like(3), 0);
+        LikeRecords branches = book.with("{z:1}", "{b:{},c:{}}", "{a:1,b:{},c:{}}", "{a:5}", "{c:{},b:{}}");
+        book.is("like(2), a leaf is more than two branches", branches.like(2), 3);
+        book.is("like(4), branches are no leaves", branches.like(4), 0);
         LikeRecords z = book.with("{a:1}", "{a:1}", "{a:1}");
         book.is("like(0), the same with the smallest number", z.like(0), 1);
         book.is("like(1)", z.like(1), 0);

@@ -164,7 +164,8 @@ final class TextSentences {
     }
 
     private void spaces() {
-        book.says("Spaces (code 32) may stand before, between and after all signs, letters and numbers, but not within a number.");
+        book.says("Spaces (code 32) may stand before, between and after all signs, letters and numbers, but not within "
+            + "a number.");
         String text = "{a:123,b:{c:0,d:{}},e:45}";
         for (int i = 0; i <= text.length(); i++) {
             String before = text.substring(0, i);
@@ -246,7 +247,8 @@ final class TextSentences {
     }
 
     private void comingBack() {
-        book.says("When a record comes back, its text is as it was read, but without spaces, and with its values as they are now.");
+        book.says("When a record comes back, its text is as it was read, but without spaces, and with its values as "
+            + "they are now.");
         LikeRecords x = book.with("  { b : 10 , a : { z : 0 , c : { } } , d : 999 }  ", "{}");
         book.back(x, 0, "{b:10,a:{z:0,c:{}},d:999}");
         book.back(x, 1, "{}");
@@ -386,7 +388,8 @@ final class TextSentences {
     }
 
     private void readWithoutRoom() {
-        book.says("CAPACITY_EXCEEDED if there were 30 records, thrown away ones included, or more than 60 paths or 40 shapes would be known.");
+        book.says("CAPACITY_EXCEEDED if there were 30 records, thrown away ones included, or more than 60 paths or 40 "
+            + "shapes would be known.");
         LikeRecords x = Full.records().run();
         book.is("count(1)", x.count(1), 30);
         book.is("discard(29)", x.discard(29), 29);
