@@ -88,15 +88,14 @@ final class Book {
         }
     }
 
+    /** All from the first line on, but for the last section, which promises nothing that could be tested. */
     private static List<String> sentencesOf(String document) {
         List<String> sentences = new ArrayList<>();
         String heading = "";
-        int from = document.indexOf("## Terms");
-        int to = document.indexOf("## Not promised");
-        for (String line : document.substring(from, to).split("\n")) {
+        for (String line : document.substring(0, document.indexOf("## Not promised")).split("\n")) {
             if (line.startsWith("#")) {
                 heading = line.replaceAll("^#+ ", "").replaceAll(":.*", "");
-            } else if (!line.isBlank() && !line.startsWith("```") && !line.startsWith("Ahead of the calls")) {
+            } else if (!line.isBlank() && !line.startsWith("```") && !line.equals("}")) {
                 for (String one : line.trim().split("(?<=[.;]) +")) {
                     sentences.add(heading + " | " + one.replaceAll(" +", " "));
                 }

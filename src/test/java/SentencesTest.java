@@ -4,6 +4,7 @@ import java.io.IOException;
 public final class SentencesTest {
     public static void main(String[] args) throws IOException {
         Book book = new Book();
+        FaceSentences.all(book);
         TextSentences.all(book);
         ActionSentences.all(book);
         LookSentences.all(book);
