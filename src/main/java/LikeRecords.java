@@ -496,16 +496,12 @@ public final class LikeRecords {
             return size;
         }
 
-        private boolean isInside(int index) {
-            return index >= 0 && index < size && index < cells.length;
-        }
-
         int at(int index) {
-            return isInside(index) ? cells[index] : NONE;
+            return index >= 0 && index < size && index < cells.length ? cells[index] : NONE;
         }
 
         void put(int index, int number) {
-            if (isInside(index)) {
+            if (index >= 0 && index < size && index < cells.length) {
                 cells[index] = number;
             }
         }
